@@ -32,20 +32,13 @@ public final class AnswersTest {
         test.check.end();
     }
 
-    private void row(String what, long[] got, long... due) {
-        check.due(what + " has", got.length, due.length);
-        for (int i = 0; i < got.length && i < due.length; i++) {
-            check.due(what + " at " + i, got[i], due[i]);
-        }
-    }
-
     private void rings() {
         KnotRows x = Check.of("ring over 4+under 6+;ring;ring under 4+over 6+;");
         long[] got = {x.ring(0, NONE), x.ring(0, 0), x.ring(0, 1), x.ring(0, 2), x.ring(1, NONE), x.ring(1, 0),
             x.ring(2, NONE), x.ring(2, 0), x.ring(2, 1), x.ring(2, 2), x.ring(3, NONE), x.ring(3, 0), x.ring(-1, NONE), x.ring(-1, 0)};
-        row("ring", got, 2, 3, 5, -1, 0, -1, 2, 1, 7, -1, -1, -1, -1, -1);
+        check.row("ring", got, 2, 3, 5, -1, 0, -1, 2, 1, 7, -1, -1, -1, -1, -1);
         x.mirror();
-        row("ring mirrored", new long[] {x.ring(0, 0), x.ring(0, 1), x.ring(2, 0), x.ring(2, 1)}, 0, 6, 2, 4);
+        check.row("ring mirrored", new long[] {x.ring(0, 0), x.ring(0, 1), x.ring(2, 0), x.ring(2, 1)}, 0, 6, 2, 4);
         for (int far : FAR) {
             check.due("ring(" + far + ", 0)", x.ring(far, 0), NONE);
             check.due("ring(0, " + far + ")", x.ring(0, far), NONE);
@@ -62,13 +55,13 @@ public final class AnswersTest {
 
     private void crossings() {
         KnotRows x = Check.of(HOPF);
-        row("crossing 0", crossing(x, 0), 1, 3, 0, 2, 1, 0, 1, 0);
-        row("crossing 1", crossing(x, 1), 1, 0, 3, 1, 2, 1, 0, 1);
+        check.row("crossing 0", crossing(x, 0), 1, 3, 0, 2, 1, 0, 1, 0);
+        check.row("crossing 1", crossing(x, 1), 1, 0, 3, 1, 2, 1, 0, 1);
         x.round(1);
-        row("crossing 0 turned", crossing(x, 0), -1, 3, 1, 2, 0, 0, 1, 0);
+        check.row("crossing 0 turned", crossing(x, 0), -1, 3, 1, 2, 0, 0, 1, 0);
         x = Check.of(TREFOIL);
         x.mirror();
-        row("crossing 0 of a mirrored trefoil", crossing(x, 0), -1, 5, 2, 0, 3, 0, 0, 1);
+        check.row("crossing 0 of a mirrored trefoil", crossing(x, 0), -1, 5, 2, 0, 3, 0, 0, 1);
         for (int far : FAR) {
             check.due("crossing(" + far + ", 0)", x.crossing(far, 0), OTHERS);
             check.due("crossing(0, " + far + ")", x.crossing(0, far), OTHERS);
@@ -82,12 +75,12 @@ public final class AnswersTest {
     /** An ARC has the number of the EDGE with which it begins, not of its least one. */
     private void arcsOver() {
         KnotRows x = Check.of(TREFOIL);
-        row("arcs over", new long[] {x.crossing(0, 7), x.crossing(1, 7), x.crossing(2, 7)}, 2, 1, 0);
+        check.row("arcs over", new long[] {x.crossing(0, 7), x.crossing(1, 7), x.crossing(2, 7)}, 2, 1, 0);
         x = Check.of("ring over 0+over 1-;ring;ring under 0+under 1-;");
-        row("arcs of a ring above", new long[] {x.crossing(0, 7), x.crossing(1, 7)}, 2, 2);
+        check.row("arcs of a ring above", new long[] {x.crossing(0, 7), x.crossing(1, 7)}, 2, 2);
         check.due("arcs", x.count(6), 4);
         x = Check.of("ring;ring over 0+over 1-;ring under 0+under 1-;");
-        row("arcs behind a loose ring", new long[] {x.crossing(0, 7), x.crossing(1, 7)}, 3, 3);
+        check.row("arcs behind a loose ring", new long[] {x.crossing(0, 7), x.crossing(1, 7)}, 3, 3);
     }
 
     private long[] face(KnotRows x, int face) {
@@ -102,9 +95,9 @@ public final class AnswersTest {
     private void faces() {
         KnotRows x = Check.of("braid 2 1;");
         check.due("faces", x.face(NONE, 0), 3);
-        row("face 0", face(x, 0), 1, 1, 0);
-        row("face 1", face(x, 1), 2, 0, 1, 2);
-        row("face 2", face(x, 2), 1, 1, 3);
+        check.row("face 0", face(x, 0), 1, 1, 0);
+        check.row("face 1", face(x, 1), 2, 0, 1, 2);
+        check.row("face 2", face(x, 2), 1, 1, 3);
         for (int far : FAR) {
             check.due("face(" + far + ", 0)", x.face(far, 0), NONE);
             check.due("face(0, " + far + ")", x.face(0, far), NONE);
@@ -113,11 +106,11 @@ public final class AnswersTest {
         check.due("face(3, 0)", x.face(3, 0), NONE);
         check.due("face(0, -1)", x.face(0, -1), NONE);
         x = Check.of(TREFOIL);
-        row("face 0", face(x, 0), 3, 0, 0, 8, 4);
-        row("face 1", face(x, 1), 2, 0, 1, 6);
-        row("face 2", face(x, 2), 2, 0, 2, 9);
-        row("face 3", face(x, 3), 3, 0, 3, 7, 11);
-        row("face 4", face(x, 4), 2, 0, 5, 10);
+        check.row("face 0", face(x, 0), 3, 0, 0, 8, 4);
+        check.row("face 1", face(x, 1), 2, 0, 1, 6);
+        check.row("face 2", face(x, 2), 2, 0, 2, 9);
+        check.row("face 3", face(x, 3), 3, 0, 3, 7, 11);
+        check.row("face 4", face(x, 4), 2, 0, 5, 10);
         x = Check.of("ring;");
         check.due("faces of a loose ring", x.face(NONE, 0), 0);
         check.due("face(0, 0) of a loose ring", x.face(0, 0), NONE);
@@ -125,29 +118,29 @@ public final class AnswersTest {
 
     private void facesOfTwoRings() {
         KnotRows x = Check.of("ring over 0+over 1-;ring under 0+under 1-;");
-        row("face 0", face(x, 0), 2, 2, 0, 6);
-        row("face 1", face(x, 1), 2, 2, 1, 4);
-        row("face 2", face(x, 2), 2, 2, 2, 7);
-        row("face 3", face(x, 3), 2, 2, 3, 5);
+        check.row("face 0", face(x, 0), 2, 2, 0, 6);
+        check.row("face 1", face(x, 1), 2, 2, 1, 4);
+        check.row("face 2", face(x, 2), 2, 2, 2, 7);
+        check.row("face 3", face(x, 3), 2, 2, 3, 5);
         x = Check.of("braid 3 1 2 1;");
         long[] kinds = new long[x.face(NONE, 0)];
         for (int face = 0; face < kinds.length; face++) {
             kinds[face] = x.face(face, 1);
         }
-        row("kinds", kinds, 0, 3, 1, 0, 0);
+        check.row("kinds", kinds, 0, 3, 1, 0, 0);
     }
 
     private void loops() {
         KnotRows x = Check.of(HOPF);
-        row("loops", new long[] {x.loops(0), x.loops(1), x.loops(2), x.loops(3), x.loops(4), x.loops(-1)}, 2, 1, 1, 2, -1, -1);
+        check.row("loops", new long[] {x.loops(0), x.loops(1), x.loops(2), x.loops(3), x.loops(4), x.loops(-1)}, 2, 1, 1, 2, -1, -1);
         x = Check.of("ring;ring over 0+under 0+;ring;");
-        row("loops with loose ones", new long[] {x.loops(0), x.loops(1), x.loops(2)}, 4, 3, -1);
+        check.row("loops with loose ones", new long[] {x.loops(0), x.loops(1), x.loops(2)}, 4, 3, -1);
         x = Check.of("ring;ring;");
-        row("loops of loose ones", new long[] {x.loops(0), x.loops(1), x.loops(-1)}, 2, -1, -1);
+        check.row("loops of loose ones", new long[] {x.loops(0), x.loops(1), x.loops(-1)}, 2, -1, -1);
         x = Check.of("ring over 0-under 0-;");
-        row("loops of a minus", new long[] {x.loops(0), x.loops(1)}, 1, 2);
+        check.row("loops of a minus", new long[] {x.loops(0), x.loops(1)}, 1, 2);
         x = Check.of(FIGURE_EIGHT);
-        row("loops of a figure eight", new long[] {x.loops(0), x.loops(15), x.loops(10), x.loops(5)}, 3, 3, 3, 1);
+        check.row("loops of a figure eight", new long[] {x.loops(0), x.loops(15), x.loops(10), x.loops(5)}, 3, 3, 3, 1);
         for (int far : FAR) {
             check.due("loops(" + far + ")", x.loops(far), NONE);
         }
@@ -218,14 +211,14 @@ public final class AnswersTest {
 
     private void windings() {
         KnotRows x = Check.of("braid 3 1 1 2 2 -2 -2;");
-        row("windings", new long[] {x.winding(0, 1), x.winding(1, 0), x.winding(0, 2), x.winding(1, 2), x.winding(2, 1)}, 1, 1, 0, 0, 0);
+        check.row("windings", new long[] {x.winding(0, 1), x.winding(1, 0), x.winding(0, 2), x.winding(1, 2), x.winding(2, 1)}, 1, 1, 0, 0, 0);
         x = Check.of("braid 2 -1 -1 -1 -1;");
         check.due("winding", x.winding(0, 1), -2);
         x.kink(0, true, true);
         check.due("a kink does not wind", x.winding(0, 1), -2);
         x = Check.of(BORROMEAN);
-        row("Borromean", new long[] {x.winding(0, 1), x.winding(0, 2), x.winding(1, 2)}, 0, 0, 0);
-        row("others", new long[] {x.winding(0, 0), x.winding(0, 3), x.winding(3, 0), x.winding(-1, 0), x.winding(0, -1),
+        check.row("Borromean", new long[] {x.winding(0, 1), x.winding(0, 2), x.winding(1, 2)}, 0, 0, 0);
+        check.row("others", new long[] {x.winding(0, 0), x.winding(0, 3), x.winding(3, 0), x.winding(-1, 0), x.winding(0, -1),
             x.winding(Integer.MAX_VALUE, 0), x.winding(0, Integer.MIN_VALUE), x.winding(3, 3)},
             OTHERS, OTHERS, OTHERS, OTHERS, OTHERS, OTHERS, OTHERS, OTHERS);
         check.due("of nothing", new KnotRows().winding(0, 1), OTHERS);
@@ -233,7 +226,7 @@ public final class AnswersTest {
 
     private void colouringsOf(String text, long... due) {
         KnotRows x = Check.of(text);
-        row("colourings of " + text, new long[] {x.colourings(2), x.colourings(3), x.colourings(5), x.colourings(7),
+        check.row("colourings of " + text, new long[] {x.colourings(2), x.colourings(3), x.colourings(5), x.colourings(7),
             x.colourings(11), x.colourings(13)}, due);
     }
 
@@ -291,15 +284,15 @@ public final class AnswersTest {
 
     private void counts() {
         KnotRows x = new KnotRows();
-        row("counts of nothing", counts(x), 0, 0, 0, 0, 0, 0, 0, 0, 0, 0, 0, 0, 0, 1);
+        check.row("counts of nothing", counts(x), 0, 0, 0, 0, 0, 0, 0, 0, 0, 0, 0, 0, 0, 1);
         x = Check.of("ring;ring;");
-        row("counts of loose ones", counts(x), 2, 0, 0, 0, 0, 0, 2, 0, 4, 2, 0, 0, 0, 1);
+        check.row("counts of loose ones", counts(x), 2, 0, 0, 0, 0, 0, 2, 0, 4, 2, 0, 0, 0, 1);
         x = Check.of("braid 4 1 1 3 -3;");
-        row("counts of two parts", counts(x), 4, 4, 8, 8, 2, 2, 4 + 1, 0, 8 + 4 + 4 + 0, 0, 0, 4, 0, 0);
+        check.row("counts of two parts", counts(x), 4, 4, 8, 8, 2, 2, 4 + 1, 0, 8 + 4 + 4 + 0, 0, 0, 4, 0, 0);
         x = Check.of("braid 3 1 2 1;");
-        row("counts of a triangle", counts(x), 2, 3, 6, 5, 1, 3, 3, 2, 8, 0, 1, 0, 1, 0);
+        check.row("counts of a triangle", counts(x), 2, 3, 6, 5, 1, 3, 3, 2, 8, 0, 1, 0, 1, 0);
         x = Check.of("braid 4 2;");
-        row("counts of a kinked one", counts(x), 3, 1, 2, 3, 1, 1, 3, 0, 8, 2, 2, 0, 0, 1);
+        check.row("counts of a kinked one", counts(x), 3, 1, 2, 3, 1, 1, 3, 0, 8, 2, 2, 0, 0, 1);
         for (int what : new int[] {-1, 17, 18, Integer.MIN_VALUE, Integer.MAX_VALUE}) {
             check.due("count(" + what + ")", x.count(what), OTHERS);
         }

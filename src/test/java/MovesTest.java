@@ -28,11 +28,6 @@ public final class MovesTest {
         test.check.end();
     }
 
-    private void told(KnotRows x, String due) {
-        boolean alike = Check.told(x).equals(due);
-        check.due("told is '" + Check.told(x) + "', due is '" + due + "', alike", alike, true);
-    }
-
     private int faceOfKind(KnotRows x, int kind) {
         for (int face = 0; face < x.face(NONE, 0); face++) {
             if (x.face(face, 1) == kind) {
@@ -47,10 +42,10 @@ public final class MovesTest {
         check.due("neither", x.out(1), NONE);
         check.due("not done", x.count(15), 0);
         check.due("first kink", x.out(0), 0);
-        told(x, "ring ;");
+        check.told(x, "ring ;");
         check.due("done", x.count(15), 1);
         x.undo();
-        told(x, "ring over 0 + under 0 + ;");
+        check.told(x, "ring over 0 + under 0 + ;");
         for (int face : FAR) {
             check.due("out(" + face + ")", x.out(face), NONE);
         }
@@ -60,10 +55,10 @@ public final class MovesTest {
         x = Check.of("ring over 7+under 3+;ring;ring over 50-under 50-under 7+over 3+;");
         check.due("crossings", x.count(1), 3);
         check.due("kink goes", x.out(faceOfKind(x, 1)), 2);
-        told(x, "ring over 0 + under 1 + ; ring ; ring under 0 + over 1 + ;");
+        check.told(x, "ring over 0 + under 1 + ; ring ; ring under 0 + over 1 + ;");
         x = Check.of("ring over 7 + over 50 - under 50 - under 3 + over 9 + under 7 + over 3 + under 9 + ;");
         check.due("a kink between", x.out(faceOfKind(x, 1)), 3);
-        told(x, TREFOIL);
+        check.told(x, TREFOIL);
         check.due("no kink in a trefoil", x.out(0), NONE);
     }
 
@@ -72,7 +67,7 @@ public final class MovesTest {
         for (int face = 0; face < 4; face++) {
             check.due("a pair", x.face(face, 1), 2);
             check.due("out(" + face + ")", x.out(face), 0);
-            told(x, "ring ; ring ;");
+            check.told(x, "ring ; ring ;");
             check.due("undo", x.undo(), true);
         }
         x = Check.of(HOPF);
@@ -82,13 +77,13 @@ public final class MovesTest {
         x = Check.of("braid 2 1 -1 1 1 1;");
         check.due("pairs", x.count(11), 2);
         check.due("the pair goes", x.out(faceOfKind(x, 2)), 3);
-        told(x, "ring over 0 + under 1 + over 2 + under 0 + over 1 + under 2 + ;");
+        check.told(x, "ring over 0 + under 1 + over 2 + under 0 + over 1 + under 2 + ;");
         check.due("nothing was done else", x.count(15), 1);
     }
 
     private void slides() {
         KnotRows x = Check.of("braid 3 1 2 1;");
-        told(x, "ring over 0 + over 1 + under 1 + under 2 + ; ring under 0 + over 2 + ;");
+        check.told(x, "ring over 0 + over 1 + under 1 + under 2 + ; ring under 0 + over 2 + ;");
         int face = faceOfKind(x, 3);
         check.due("one triangle", x.count(12), 1);
         for (int other = 0; other < x.count(3); other++) {
@@ -102,11 +97,11 @@ public final class MovesTest {
         check.due("slide(faces)", x.slide(x.count(3)), false);
         check.due("not done", x.count(15), 0);
         check.due("slide", x.slide(face), true);
-        told(x, "ring over 1 + over 0 + under 2 + under 1 + ; ring over 2 + under 0 + ;");
+        check.told(x, "ring over 1 + over 0 + under 2 + under 1 + ; ring over 2 + under 0 + ;");
         check.due("done", x.count(15), 1);
         check.due("drawn", x.count(3), x.count(1) + 2);
         check.due("slide there and back", x.slide(faceOfKind(x, 3)), true);
-        told(x, "ring over 0 + over 1 + under 1 + under 2 + ; ring under 0 + over 2 + ;");
+        check.told(x, "ring over 0 + over 1 + under 1 + under 2 + ; ring under 0 + over 2 + ;");
         x = Check.of("braid 3 1 -2 1;");
         check.due("no triangle to slide", x.count(12), 0);
         for (int any = 0; any < x.count(3); any++) {
@@ -120,27 +115,27 @@ public final class MovesTest {
         int face = faceOfKind(x, 3);
         check.due("a triangle", face != NONE, true);
         check.due("slide", x.slide(face), true);
-        told(x, "ring over 2 + under 1 + under 0 + over 0 + ; ring over 1 + under 2 + ;");
+        check.told(x, "ring over 2 + under 1 + under 0 + over 0 + ; ring over 1 + under 2 + ;");
     }
 
     private void kinks() {
         KnotRows x = Check.of(HOPF);
         check.due("kink(0)", x.kink(0, true, true), true);
-        told(x, "ring over 0 + over 2 + under 2 + under 1 + ; ring under 0 + over 1 + ;");
+        check.told(x, "ring over 0 + over 2 + under 2 + under 1 + ; ring under 0 + over 1 + ;");
         check.due("kink(3)", x.kink(3, false, false), true);
-        told(x, "ring over 0 + over 2 + under 2 + under 1 + under 3 - over 3 - ; ring under 0 + over 1 + ;");
+        check.told(x, "ring over 0 + over 2 + under 2 + under 1 + under 3 - over 3 - ; ring under 0 + over 1 + ;");
         check.due("kink(7)", x.kink(7, false, true), true);
-        told(x, "ring over 0 + over 2 + under 2 + under 1 + under 3 - over 3 - ; "
+        check.told(x, "ring over 0 + over 2 + under 2 + under 1 + under 3 - over 3 - ; "
             + "ring under 0 + over 1 + under 4 + over 4 + ;");
         check.due("kink(6)", x.kink(6, true, false), true);
-        told(x, "ring over 0 + over 2 + under 2 + under 1 + under 3 - over 3 - ; "
+        check.told(x, "ring over 0 + over 2 + under 2 + under 1 + under 3 - over 3 - ; "
             + "ring under 0 + over 5 - under 5 - over 1 + under 4 + over 4 + ;");
         check.due("kinks", x.count(10), 4);
         check.due("drawn", x.count(3), x.count(1) + 2);
         check.due("done", x.count(15), 4);
         x = Check.of("ring;ring over 4+under 4+;ring;");
         check.due("kink behind a loose ring", x.kink(0, true, true), true);
-        told(x, "ring ; ring over 0 + over 1 + under 1 + under 0 + ; ring ;");
+        check.told(x, "ring ; ring over 0 + over 1 + under 1 + under 0 + ; ring ;");
     }
 
     private void kinkLimits() {
@@ -157,7 +152,7 @@ public final class MovesTest {
         }
         String told = Check.told(x);
         check.due("a ninth", x.kink(0, true, true), false);
-        told(x, told);
+        check.told(x, told);
         check.due("done", x.count(15), 7);
     }
 
@@ -167,10 +162,10 @@ public final class MovesTest {
         check.due("no thing done", x.count(15), 0);
         x.switches(0);
         check.due("loosen all", x.loosen(), 3);
-        told(x, "ring ;");
+        check.told(x, "ring ;");
         check.due("one thing more", x.count(15), 2);
         check.due("undo", x.undo(), true);
-        told(x, "ring under 0 - under 1 + over 2 + over 0 - over 1 + under 2 + ;");
+        check.told(x, "ring under 0 - under 1 + over 2 + over 0 - over 1 + under 2 + ;");
         x = Check.of("braid 4 1 -1 3 2 -2 2 2;");
         check.due("loosen some", x.loosen(), 5);
         check.due("left", x.count(1), 2);
@@ -187,21 +182,21 @@ public final class MovesTest {
         check.due("kinks", x.count(10), 0);
         check.due("pairs", x.count(11), 2);
         check.due("loosen", x.loosen(), 3);
-        told(x, "ring ;");
+        check.told(x, "ring ;");
         x = Check.of("braid 2 1 -1 1 1;");
         check.due("loosen", x.loosen(), 2);
-        told(x, "ring over 0 + under 1 + ; ring under 0 + over 1 + ;");
+        check.told(x, "ring over 0 + under 1 + ; ring under 0 + over 1 + ;");
         x = Check.of("braid 2 1 -1 1 1 1;");
         KnotRows y = Check.of("braid 2 1 -1 1 1 1;");
         check.due("loosen", x.loosen(), 2);
         y.out(faceOfKind(y, 2));
-        told(x, Check.told(y));
+        check.told(x, Check.told(y));
     }
 
     private void mirrors() {
         KnotRows x = Check.of(TREFOIL);
         check.due("mirror", x.mirror(), true);
-        told(x, "ring under 0 - over 1 - under 2 - over 0 - under 1 - over 2 - ;");
+        check.told(x, "ring under 0 - over 1 - under 2 - over 0 - under 1 - over 2 - ;");
         check.due("drawn", x.count(3), 5);
         check.due("done", x.count(15), 1);
         x = Check.of("ring;");
@@ -213,12 +208,12 @@ public final class MovesTest {
     private void rounds() {
         KnotRows x = Check.of(HOPF);
         check.due("round(1)", x.round(1), true);
-        told(x, "ring over 0 - under 1 - ; ring under 0 - over 1 - ;");
+        check.told(x, "ring over 0 - under 1 - ; ring under 0 - over 1 - ;");
         check.due("round(0)", x.round(0), true);
-        told(x, HOPF);
+        check.told(x, HOPF);
         x = Check.of(TREFOIL);
         check.due("round", x.round(0), true);
-        told(x, "ring over 0 + under 2 + over 1 + under 0 + over 2 + under 1 + ;");
+        check.told(x, "ring over 0 + under 2 + over 1 + under 0 + over 2 + under 1 + ;");
         check.due("done", x.count(15), 1);
         check.due("drawn", x.count(3), 5);
         for (int ring : FAR) {
@@ -229,13 +224,13 @@ public final class MovesTest {
         x = Check.of("ring over 5-under 5-over 7+under 3+;ring;ring under 7+over 3+;");
         check.due("round a loose one", x.round(1), true);
         check.due("round a kinked one", x.round(0), true);
-        told(x, "ring over 0 - under 2 - over 1 - under 0 - ; ring ; ring under 1 - over 2 - ;");
+        check.told(x, "ring over 0 - under 2 - over 1 - under 0 - ; ring ; ring under 1 - over 2 - ;");
     }
 
     private void switches() {
         KnotRows x = Check.of(TREFOIL);
         check.due("switches(1)", x.switches(1), true);
-        told(x, "ring over 0 + over 1 - over 2 + under 0 + under 1 - under 2 + ;");
+        check.told(x, "ring over 0 + over 1 - over 2 + under 0 + under 1 - under 2 + ;");
         check.due("drawn", x.count(3), 5);
         for (int crossing : FAR) {
             check.due("switches(" + crossing + ")", x.switches(crossing), false);
@@ -243,7 +238,7 @@ public final class MovesTest {
         check.due("switches(3)", x.switches(3), false);
         check.due("done", x.count(15), 1);
         check.due("back again", x.switches(1), true);
-        told(x, TREFOIL);
+        check.told(x, TREFOIL);
     }
 
     private void sums() {
@@ -252,14 +247,14 @@ public final class MovesTest {
         x.hold(1);
         x.undo();
         check.due("sum", x.sum(1), true);
-        told(x, "ring over 0 + under 1 + over 2 + under 3 + over 4 - under 4 - ; ring under 0 + over 1 + ; "
+        check.told(x, "ring over 0 + under 1 + over 2 + under 3 + over 4 - under 4 - ; ring under 0 + over 1 + ; "
             + "ring under 2 + over 3 + ;");
         check.due("drawn", x.count(3), 7);
         check.due("one part", x.count(4), 1);
         check.due("done", x.count(15), 1);
         check.due("the slot stays", x.alike(1, 2), 0);
         check.due("undo", x.undo(), true);
-        told(x, HOPF);
+        check.told(x, HOPF);
         check.due("an empty slot", x.sum(0), false);
         for (int slot : FAR) {
             check.due("sum(" + slot + ")", x.sum(slot), false);
@@ -272,12 +267,12 @@ public final class MovesTest {
         KnotRows x = Check.of("ring;ring over 3-under 3-;");
         x.hold(0);
         check.due("loose with loose", x.sum(0), true);
-        told(x, "ring ; ring over 0 - under 0 - ; ring over 1 - under 1 - ;");
+        check.told(x, "ring ; ring over 0 - under 0 - ; ring over 1 - under 1 - ;");
         check.due("parts", x.count(4), 2);
         x = Check.of("ring;");
         x.hold(2);
         check.due("loose with one", x.sum(2), true);
-        told(x, "ring ;");
+        check.told(x, "ring ;");
         check.due("done", x.count(15), 1);
         x = new KnotRows();
         x.hold(0);
@@ -288,7 +283,7 @@ public final class MovesTest {
         KnotRows x = Check.of("ring;ring;ring;");
         x.hold(0);
         check.due("five rings", x.sum(0), false);
-        told(x, "ring ; ring ; ring ;");
+        check.told(x, "ring ; ring ; ring ;");
         x = Check.of("braid 3 1;");
         x.hold(0);
         check.due("three rings", x.sum(0), true);
@@ -326,7 +321,7 @@ public final class MovesTest {
         x.hold(0);
         for (int i = 4; i >= 0; i--) {
             check.due("undo", x.undo(), true);
-            told(x, seen[i]);
+            check.told(x, seen[i]);
             check.due("things", x.count(15), i);
         }
         check.due("undo at the end", x.undo(), false);
@@ -334,7 +329,7 @@ public final class MovesTest {
         check.due("a thing again", x.mirror(), true);
         check.due("things", x.count(15), 1);
         check.due("undo", x.undo(), true);
-        told(x, TREFOIL);
+        check.told(x, TREFOIL);
     }
 
     private void undoesForty() {
@@ -347,9 +342,9 @@ public final class MovesTest {
         }
         for (int i = 59; i >= 20; i--) {
             check.due("undo", x.undo(), true);
-            told(x, seen[i]);
+            check.told(x, seen[i]);
         }
         check.due("no more", x.undo(), false);
-        told(x, seen[20]);
+        check.told(x, seen[20]);
     }
 }

@@ -18,11 +18,6 @@ public final class SlotsTest {
         test.check.end();
     }
 
-    private void told(KnotRows x, String due) {
-        boolean alike = Check.told(x).equals(due);
-        check.due("told is '" + Check.told(x) + "', due is '" + due + "', alike", alike, true);
-    }
-
     private void holdsAndRestores() {
         KnotRows x = Check.of(TREFOIL);
         String told = Check.told(x);
@@ -31,12 +26,12 @@ public final class SlotsTest {
         x.switches(2);
         x.loosen();
         check.due("restore", x.restore(0), true);
-        told(x, told);
+        check.told(x, told);
         check.due("drawn", x.count(3), 5);
         check.due("coefficient", x.coefficient(-16, true), -1);
         x.mirror();
         check.due("restore again", x.restore(0), true);
-        told(x, told);
+        check.told(x, told);
     }
 
     private void slotsStandAlone() {
@@ -50,7 +45,7 @@ public final class SlotsTest {
         }
         for (int slot = 2; slot >= 0; slot--) {
             check.due("restore", x.restore(slot), true);
-            told(x, seen[slot]);
+            check.told(x, seen[slot]);
             x.mirror();
             x.kink(0, false, false);
         }
@@ -58,7 +53,7 @@ public final class SlotsTest {
         x.hold(0);
         x.restore(2);
         x.restore(0);
-        told(x, seen[1]);
+        check.told(x, seen[1]);
         check.due("slots", x.count(16), 3);
     }
 
@@ -75,10 +70,10 @@ public final class SlotsTest {
         check.due("no things", x.count(15), 0);
         check.due("undo", x.undo(), false);
         check.due("the tape stays", x.count(14), 4);
-        told(x, "ring under 0 - over 1 - under 2 - over 0 - under 1 - over 2 - ;");
+        check.told(x, "ring under 0 - over 1 - under 2 - over 0 - under 1 - over 2 - ;");
         x.switches(0);
         check.due("undo", x.undo(), true);
-        told(x, "ring under 0 - over 1 - under 2 - over 0 - under 1 - over 2 - ;");
+        check.told(x, "ring under 0 - over 1 - under 2 - over 0 - under 1 - over 2 - ;");
         check.due("undo no more", x.undo(), false);
         x = new KnotRows();
         check.due("hold nothing", x.hold(2), true);
@@ -173,7 +168,7 @@ public final class SlotsTest {
         x.hold(0);
         x.undo();
         x.out(3);
-        told(x, "ring over 0 + under 0 + ; ring ;");
+        check.told(x, "ring over 0 + under 0 + ; ring ;");
         check.due("another ring is the loose one", x.alike(0, 2), 0);
         check.due("though alike", x.alike(0, 0), 1);
         x = Check.of("ring over 0+over 1-under 1-under 0+;");

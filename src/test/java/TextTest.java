@@ -25,21 +25,6 @@ public final class TextTest {
         check.end();
     }
 
-    private static void fault(Check check, String text, int number, int place) {
-        KnotRows x = new KnotRows();
-        check.due("read of '" + text + "'", Check.read(x, text), number);
-        check.due("place of '" + text + "'", x.place(), place);
-        check.due("tape behind '" + text + "'", x.count(14), 0);
-    }
-
-    private static void fits(Check check, String text, String told) {
-        KnotRows x = new KnotRows();
-        check.due("read of '" + text + "'", Check.read(x, text), 0);
-        check.due("place of '" + text + "'", x.place(), NONE);
-        boolean alike = Check.told(x).equals(told);
-        check.due("'" + text + "' is told as '" + Check.told(x) + "', alike", alike, true);
-    }
-
     private static void newObject(Check check) {
         KnotRows x = new KnotRows();
         for (int what = 0; what <= 16; what++) {
@@ -94,111 +79,111 @@ public final class TextTest {
     }
 
     private static void readsRings(Check check) {
-        fits(check, "", "");
-        fits(check, " \t\r\n", "");
-        fits(check, "ring;", "ring ;");
-        fits(check, "ring;ring ;\nring\t;\rring;", "ring ; ring ; ring ; ring ;");
-        fits(check, "ring over 5+under 05+;", "ring over 0 + under 0 + ;");
-        fits(check, "ring over 99 - under 0099 - ;ring;", "ring over 0 - under 0 - ; ring ;");
-        fits(check, "ring over 7 + under 3 + over 9 + under 7 + over 3 + under 9 + ;",
+        check.fits("", "");
+        check.fits(" \t\r\n", "");
+        check.fits("ring;", "ring ;");
+        check.fits("ring;ring ;\nring\t;\rring;", "ring ; ring ; ring ; ring ;");
+        check.fits("ring over 5+under 05+;", "ring over 0 + under 0 + ;");
+        check.fits("ring over 99 - under 0099 - ;ring;", "ring over 0 - under 0 - ; ring ;");
+        check.fits("ring over 7 + under 3 + over 9 + under 7 + over 3 + under 9 + ;",
             "ring over 0 + under 1 + over 2 + under 0 + over 1 + under 2 + ;");
-        fits(check, "ring over 8+under 0+;ring under 8+over 0+;", "ring over 0 + under 1 + ; ring under 0 + over 1 + ;");
+        check.fits("ring over 8+under 0+;ring under 8+over 0+;", "ring over 0 + under 1 + ; ring under 0 + over 1 + ;");
     }
 
     private static void readsBraids(Check check) {
-        fits(check, "braid 2;", "ring ; ring ;");
-        fits(check, "braid 4;", "ring ; ring ; ring ; ring ;");
-        fits(check, "braid 2 1;", "ring over 0 + under 0 + ;");
-        fits(check, "braid 2-1;", "ring under 0 - over 0 - ;");
-        fits(check, TREFOIL, "ring over 0 + under 1 + over 2 + under 0 + over 1 + under 2 + ;");
-        fits(check, "braid 0002 1 -0001;", "ring over 0 + over 1 - ; ring under 0 + under 1 - ;");
-        fits(check, "braid 3 1 2;", "ring over 0 + over 1 + under 1 + under 0 + ;");
-        fits(check, "braid 3 -2 1;", "ring over 1 + under 0 - over 0 - under 1 + ;");
-        fits(check, "braid 4 2 2;", "ring ; ring over 0 + under 1 + ; ring under 0 + over 1 + ; ring ;");
-        fits(check, "braid 4 3 1 3 1;",
+        check.fits("braid 2;", "ring ; ring ;");
+        check.fits("braid 4;", "ring ; ring ; ring ; ring ;");
+        check.fits("braid 2 1;", "ring over 0 + under 0 + ;");
+        check.fits("braid 2-1;", "ring under 0 - over 0 - ;");
+        check.fits(TREFOIL, "ring over 0 + under 1 + over 2 + under 0 + over 1 + under 2 + ;");
+        check.fits("braid 0002 1 -0001;", "ring over 0 + over 1 - ; ring under 0 + under 1 - ;");
+        check.fits("braid 3 1 2;", "ring over 0 + over 1 + under 1 + under 0 + ;");
+        check.fits("braid 3 -2 1;", "ring over 1 + under 0 - over 0 - under 1 + ;");
+        check.fits("braid 4 2 2;", "ring ; ring over 0 + under 1 + ; ring under 0 + over 1 + ; ring ;");
+        check.fits("braid 4 3 1 3 1;",
             "ring over 1 + under 3 + ; ring under 1 + over 3 + ; ring over 0 + under 2 + ; ring under 0 + over 2 + ;");
     }
 
     private static void syntax(Check check) {
-        fault(check, "ring", 1, 4);
-        fault(check, "ring  ", 1, 6);
-        fault(check, "braid", 1, 5);
-        fault(check, "braid 2", 1, 7);
-        fault(check, "braid 2 1 -", 1, 11);
-        fault(check, "braid ;", 1, 6);
-        fault(check, "braid -2;", 1, 6);
-        fault(check, "braid 2 +1;", 1, 8);
-        fault(check, "braid 2 - - 1;", 1, 10);
-        fault(check, "braid 2 -;", 1, 9);
-        fault(check, "braid 2; ring;", 1, 9);
-        fault(check, "braid 2;;", 1, 8);
-        fault(check, "braid 2; 1", 1, 9);
-        fault(check, "ring; braid 2;", 1, 6);
-        fault(check, ";", 1, 0);
-        fault(check, " 7", 1, 1);
-        fault(check, "over 1 +", 1, 0);
-        fault(check, "ring 1 +;", 1, 5);
-        fault(check, "ring over + 1;", 1, 10);
-        fault(check, "ring over 1;", 1, 11);
-        fault(check, "ring over 1 under 1 +;", 1, 12);
-        fault(check, "ring over 1 + -;", 1, 14);
-        fault(check, "ring over 1 + under 1 + ; over 2 +;", 1, 26);
-        fault(check, "ring over 1", 1, 11);
-        fault(check, "ring over 1 +", 1, 13);
-        fault(check, "ring over", 1, 9);
-        fault(check, "ring ring;", 1, 5);
+        check.fault("ring", 1, 4);
+        check.fault("ring  ", 1, 6);
+        check.fault("braid", 1, 5);
+        check.fault("braid 2", 1, 7);
+        check.fault("braid 2 1 -", 1, 11);
+        check.fault("braid ;", 1, 6);
+        check.fault("braid -2;", 1, 6);
+        check.fault("braid 2 +1;", 1, 8);
+        check.fault("braid 2 - - 1;", 1, 10);
+        check.fault("braid 2 -;", 1, 9);
+        check.fault("braid 2; ring;", 1, 9);
+        check.fault("braid 2;;", 1, 8);
+        check.fault("braid 2; 1", 1, 9);
+        check.fault("ring; braid 2;", 1, 6);
+        check.fault(";", 1, 0);
+        check.fault(" 7", 1, 1);
+        check.fault("over 1 +", 1, 0);
+        check.fault("ring 1 +;", 1, 5);
+        check.fault("ring over + 1;", 1, 10);
+        check.fault("ring over 1;", 1, 11);
+        check.fault("ring over 1 under 1 +;", 1, 12);
+        check.fault("ring over 1 + -;", 1, 14);
+        check.fault("ring over 1 + under 1 + ; over 2 +;", 1, 26);
+        check.fault("ring over 1", 1, 11);
+        check.fault("ring over 1 +", 1, 13);
+        check.fault("ring over", 1, 9);
+        check.fault("ring ring;", 1, 5);
     }
 
     private static void words(Check check) {
-        fault(check, "Ring;", 1, 0);
-        fault(check, "rin g;", 1, 0);
-        fault(check, "rings;", 1, 0);
-        fault(check, "ringz;", 1, 0);
-        fault(check, "ringa;", 1, 0);
-        fault(check, "sing;", 1, 0);
-        fault(check, "xraid 2;", 1, 0);
-        fault(check, "ring aver 1+;", 1, 5);
-        fault(check, "ring onder 1+;", 1, 5);
-        fault(check, "braids 2;", 1, 0);
-        fault(check, "ringover1+;", 1, 0);
-        fault(check, "ring overr 1 +;", 1, 5);
-        fault(check, "ring unde 1 +;", 1, 5);
-        fault(check, "ring over 12345 +;", 1, 10);
-        fault(check, "ring over 00001 +;", 1, 10);
-        fault(check, "ring over 1234567890123 +;", 1, 10);
-        fault(check, "ring over 1, +;", 1, 11);
-        fault(check, "ring over 1_+;", 1, 11);
-        fault(check, "ring\u000b;", 1, 4);
-        fault(check, "ring\f;", 1, 4);
-        fault(check, "ring:", 1, 4);
-        fault(check, "ring /;", 1, 5);
-        fault(check, "ring `;", 1, 5);
-        fault(check, "ring {;", 1, 5);
-        fault(check, "\0", 1, 0);
+        check.fault("Ring;", 1, 0);
+        check.fault("rin g;", 1, 0);
+        check.fault("rings;", 1, 0);
+        check.fault("ringz;", 1, 0);
+        check.fault("ringa;", 1, 0);
+        check.fault("sing;", 1, 0);
+        check.fault("xraid 2;", 1, 0);
+        check.fault("ring aver 1+;", 1, 5);
+        check.fault("ring onder 1+;", 1, 5);
+        check.fault("braids 2;", 1, 0);
+        check.fault("ringover1+;", 1, 0);
+        check.fault("ring overr 1 +;", 1, 5);
+        check.fault("ring unde 1 +;", 1, 5);
+        check.fault("ring over 12345 +;", 1, 10);
+        check.fault("ring over 00001 +;", 1, 10);
+        check.fault("ring over 1234567890123 +;", 1, 10);
+        check.fault("ring over 1, +;", 1, 11);
+        check.fault("ring over 1_+;", 1, 11);
+        check.fault("ring\u000b;", 1, 4);
+        check.fault("ring\f;", 1, 4);
+        check.fault("ring:", 1, 4);
+        check.fault("ring /;", 1, 5);
+        check.fault("ring `;", 1, 5);
+        check.fault("ring {;", 1, 5);
+        check.fault("\0", 1, 0);
     }
 
     private static void room(Check check) {
-        fault(check, "ring;ring;ring;ring;ring;", 2, 20);
-        fault(check, "ring;ring;ring;ring; ring !", 2, 21);
-        fault(check, "ring;ring;ring;ring;rings;", 1, 20);
+        check.fault("ring;ring;ring;ring;ring;", 2, 20);
+        check.fault("ring;ring;ring;ring; ring !", 2, 21);
+        check.fault("ring;ring;ring;ring;rings;", 1, 20);
         StringBuilder nine = new StringBuilder("ring ");
         for (int i = 0; i < 8; i++) {
             nine.append("over ").append(i).append("+ ");
         }
-        fault(check, nine + "over 8+;", 2, 74);
-        fault(check, nine + "over 8", 2, 74);
-        fault(check, nine + "over 2345 ring", 2, 74);
-        fault(check, nine + "over 07 +;", 3, 74);
-        fault(check, nine + "over !", 1, 74);
-        fault(check, nine + ";", 4, 10);
-        fault(check, "ring over 100+over 101+over 102+over 103+over 104+over 105+over 106+over 107+over 108+;", 2, 82);
-        fault(check, "braid 2 1 1 1 1 1 1 1 1 1;", 2, 24);
-        fault(check, "braid 2 1 1 1 1 1 1 1 1 - 1;", 2, 24);
-        fault(check, "braid 2 1 1 1 1 1 1 1 1 -;", 2, 24);
-        fault(check, "braid 2 1 1 1 1 1 1 1 -1 - ;", 2, 25);
-        fault(check, "braid 2 1 1 1 1 1 1 1 1 +", 1, 24);
-        fault(check, "braid 9 9 1 1 1 1 1 1 1 1 ;", 2, 24);
-        fits(check, "braid 2 1 -1 1 -1 1 -1 1 -1;",
+        check.fault(nine + "over 8+;", 2, 74);
+        check.fault(nine + "over 8", 2, 74);
+        check.fault(nine + "over 2345 ring", 2, 74);
+        check.fault(nine + "over 07 +;", 3, 74);
+        check.fault(nine + "over !", 1, 74);
+        check.fault(nine + ";", 4, 10);
+        check.fault("ring over 100+over 101+over 102+over 103+over 104+over 105+over 106+over 107+over 108+;", 2, 82);
+        check.fault("braid 2 1 1 1 1 1 1 1 1 1;", 2, 24);
+        check.fault("braid 2 1 1 1 1 1 1 1 1 - 1;", 2, 24);
+        check.fault("braid 2 1 1 1 1 1 1 1 1 -;", 2, 24);
+        check.fault("braid 2 1 1 1 1 1 1 1 -1 - ;", 2, 25);
+        check.fault("braid 2 1 1 1 1 1 1 1 1 +", 1, 24);
+        check.fault("braid 9 9 1 1 1 1 1 1 1 1 ;", 2, 24);
+        check.fits("braid 2 1 -1 1 -1 1 -1 1 -1;",
             "ring over 0 + over 1 - over 2 + over 3 - over 4 + over 5 - over 6 + over 7 - ; "
             + "ring under 0 + under 1 - under 2 + under 3 - under 4 + under 5 - under 6 + under 7 - ;");
     }
@@ -206,54 +191,54 @@ public final class TextTest {
     /** 'ring' and 133 passes are 400 TOKENS. */
     private static void roomOfTokens(Check check) {
         String full = "ring" + " over 1+".repeat(133);
-        fault(check, full + ";", 2, full.length());
-        fault(check, full + " over", 2, full.length() + 1);
-        fault(check, full + " ring", 1, full.length() + 1);
-        fault(check, full + " 77777", 1, full.length() + 1);
-        fault(check, full + "  ", 1, full.length() + 2);
+        check.fault(full + ";", 2, full.length());
+        check.fault(full + " over", 2, full.length() + 1);
+        check.fault(full + " ring", 1, full.length() + 1);
+        check.fault(full + " 77777", 1, full.length() + 1);
+        check.fault(full + "  ", 1, full.length() + 2);
         String whole = "ring;ring" + " over 1+".repeat(132) + ";";
-        fault(check, whole, 3, 23);
-        fault(check, whole + "  ", 3, 23);
-        fault(check, whole + "ring;", 2, whole.length());
-        fault(check, whole + " ring!", 2, whole.length() + 1);
-        fault(check, whole + " !", 1, whole.length() + 1);
-        fault(check, whole + " over", 1, whole.length() + 1);
+        check.fault(whole, 3, 23);
+        check.fault(whole + "  ", 3, 23);
+        check.fault(whole + "ring;", 2, whole.length());
+        check.fault(whole + " ring!", 2, whole.length() + 1);
+        check.fault(whole + " !", 1, whole.length() + 1);
+        check.fault(whole + " over", 1, whole.length() + 1);
     }
 
     private static void wrong(Check check) {
-        fault(check, "ring over 100+under 100+;", 5, 10);
-        fault(check, "ring over 1+over 9999+over 1+;", 5, 17);
-        fault(check, "ring over 1+over 1+over 9999+;", 3, 17);
-        fault(check, "braid 1;", 5, 6);
-        fault(check, "braid 5 9 9;", 5, 6);
-        fault(check, "braid 0;", 5, 6);
-        fault(check, "braid 2 1 2 0;", 5, 10);
-        fault(check, "braid 3 1 2 3;", 5, 12);
-        fault(check, "braid 4 1 2 3 -4;", 5, 15);
-        fault(check, "braid 4 - 0 9;", 5, 10);
-        fault(check, "braid 2 2 !", 1, 10);
+        check.fault("ring over 100+under 100+;", 5, 10);
+        check.fault("ring over 1+over 9999+over 1+;", 5, 17);
+        check.fault("ring over 1+over 1+over 9999+;", 3, 17);
+        check.fault("braid 1;", 5, 6);
+        check.fault("braid 5 9 9;", 5, 6);
+        check.fault("braid 0;", 5, 6);
+        check.fault("braid 2 1 2 0;", 5, 10);
+        check.fault("braid 3 1 2 3;", 5, 12);
+        check.fault("braid 4 1 2 3 -4;", 5, 15);
+        check.fault("braid 4 - 0 9;", 5, 10);
+        check.fault("braid 2 2 !", 1, 10);
     }
 
     private static void twiceAndLacks(Check check) {
-        fault(check, "ring over 1+over 1+;", 3, 17);
-        fault(check, "ring over 1+under 1-;", 3, 18);
-        fault(check, "ring under 1-;ring under 01-;", 3, 25);
-        fault(check, "ring over 1+under 1+over 1+;", 3, 25);
-        fault(check, "ring over 1+under 1+under 1+;", 3, 26);
-        fault(check, "ring over 4+over 1+under 1-;", 3, 25);
-        fault(check, "ring over 4+under 1+;", 4, 10);
-        fault(check, "ring over 4+under 4+;ring under 7-;", 4, 32);
-        fault(check, "ring over 4+over 5+under 4+;", 4, 17);
+        check.fault("ring over 1+over 1+;", 3, 17);
+        check.fault("ring over 1+under 1-;", 3, 18);
+        check.fault("ring under 1-;ring under 01-;", 3, 25);
+        check.fault("ring over 1+under 1+over 1+;", 3, 25);
+        check.fault("ring over 1+under 1+under 1+;", 3, 26);
+        check.fault("ring over 4+over 1+under 1-;", 3, 25);
+        check.fault("ring over 4+under 1+;", 4, 10);
+        check.fault("ring over 4+under 4+;ring under 7-;", 4, 32);
+        check.fault("ring over 4+over 5+under 4+;", 4, 17);
     }
 
     private static void plane(Check check) {
-        fault(check, "ring over 1+over 2+under 1+under 2+;", 6, 36);
-        fault(check, "ring over 1+;ring under 1+;", 6, 27);
-        fault(check, "ring over 1+under 2-;ring under 1+over 2-; ", 6, 43);
-        fits(check, "ring over 1+under 2+;ring under 1+over 2+; ", "ring over 0 + under 1 + ; ring under 0 + over 1 + ;");
-        fits(check, "ring over 1+over 2-;ring under 1+under 2-;", "ring over 0 + over 1 - ; ring under 0 + under 1 - ;");
-        fault(check, "ring over 1+over 2+;ring under 1+under 2+;", 6, 42);
-        fits(check, "ring over 1+over 2+under 2+under 1+;", "ring over 0 + over 1 + under 1 + under 0 + ;");
+        check.fault("ring over 1+over 2+under 1+under 2+;", 6, 36);
+        check.fault("ring over 1+;ring under 1+;", 6, 27);
+        check.fault("ring over 1+under 2-;ring under 1+over 2-; ", 6, 43);
+        check.fits("ring over 1+under 2+;ring under 1+over 2+; ", "ring over 0 + under 1 + ; ring under 0 + over 1 + ;");
+        check.fits("ring over 1+over 2-;ring under 1+under 2-;", "ring over 0 + over 1 - ; ring under 0 + under 1 - ;");
+        check.fault("ring over 1+over 2+;ring under 1+under 2+;", 6, 42);
+        check.fits("ring over 1+over 2+under 2+under 1+;", "ring over 0 + over 1 + under 1 + under 0 + ;");
     }
 
     private static void faultChangesNothing(Check check) {
