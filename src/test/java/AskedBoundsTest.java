@@ -1,6 +1,8 @@
 /**
  * The sentences of promises 15 to 24 and 27 that name a boundary, each with a test of its own, in the
- * document's order. What is due was worked out by hand, from the document's words.
+ * document's order. What is due was worked out by hand, from the document's words, but for what has
+ * too many cases for that: freed() of TIED, and looser() of TIED and of the braid of four strands,
+ * which are as class and Model, written apart from each other, both answer.
  */
 public final class AskedBoundsTest {
     private static final int NONE = KnotRows.NONE;
@@ -534,6 +536,11 @@ public final class AskedBoundsTest {
         x.hold(0);
         x.kink(1, false, false);
         alike("more CROSSINGS", x, 1, 1, 0);
+        x = Check.of(HOPF);
+        x.hold(0);
+        x.kink(3, true, false);
+        check.due("the kink goes again", x.loosen(), 1);
+        check.row("nothing is left of it", new long[] {x.alike(0, 0), x.alike(0, 2)}, 1, 1);
     }
 
     // ---- promise 27: count ----

@@ -1,6 +1,7 @@
 /**
  * The sentences of promises 6 to 14, 25 and 26 that name a boundary, each with a test of its own, in
- * the document's order. What is due was worked out by hand, from the document's words.
+ * the document's order. What is due was worked out by hand, from the document's words; the rows on
+ * which the order of loosening can be seen were looked for by a program, and then worked out so.
  */
 public final class DoneBoundsTest {
     private static final int NONE = KnotRows.NONE;
@@ -16,6 +17,7 @@ public final class DoneBoundsTest {
         test.outOfTheFirstAndTheLastFace();
         test.outTellsHowManyAreLeft();
         test.outOfAPair();
+        test.outOfAPairWithOneBetween();
         test.outOfNeither();
         test.outOfNoSuchFace();
         test.crossingsBehindGetNumbersLess();
@@ -104,6 +106,19 @@ public final class DoneBoundsTest {
             check.due("undo", x.undo(), true);
         }
         check.refused("out of a fifth", x, Check.seen(x), x.out(4), NONE);
+    }
+
+    /** The sign of the one between goes along with its number. */
+    private void outOfAPairWithOneBetween() {
+        KnotRows x = Check.of("braid 4 -1 3 1;");
+        check.told(x, "ring under 0 - under 2 + ; ring over 0 - over 2 + ; ring over 1 + under 1 + ;");
+        int pair = 0;
+        while (pair < x.count(3) && x.face(pair, 1) != 2) {
+            pair++;
+        }
+        check.due("out of 0 and 2", x.out(pair), 1);
+        check.told(x, "ring ; ring ; ring over 0 + under 0 + ;");
+        check.anew("out of 0 and 2", x);
     }
 
     private void outOfNeither() {
